@@ -583,7 +583,7 @@ public final class CutTreeKeeper {
                 System.arraycopy(graph.capacities[u], 0, rest[u], 0, MOST_NODES);
             }
             for (int path = 0; path <= MOST_PATHS && findPath(s, t); path++) {
-                sendAlong(s, t);
+                sendAlong(s, t, narrowest(s, t));
             }
             // What the last, vain search has reached is the smallest minimum cut around s.
             return reached;
@@ -611,8 +611,18 @@ public final class CutTreeKeeper {
             return false;
         }
 
-        private void sendAlong(int s, int t) {
-            int amount = narrowest(s, t);
+        private int narrowest(int s, int t) {
+            int amount = Integer.MAX_VALUE;
+            int v = t;
+            for (int steps = 0; steps < nodes && v != s; steps++) {
+                int u = cameFrom[v];
+                amount = Math.min(amount, rest[u][v]);
+                v = u;
+            }
+            return amount;
+        }
+
+        private void sendAlong(int s, int t, int amount) {
             int v = t;
             for (int steps = 0; steps < nodes && v != s; steps++) {
                 int u = cameFrom[v];
@@ -620,16 +630,6 @@ public final class CutTreeKeeper {
                 rest[v][u] += amount;
                 v = u;
             }
-        }
-
-        private int narrowest(int s, int t) {
-            int amount = Integer.MAX_VALUE;
-            int v = t;
-            for (int steps = 0; steps < nodes && v != s; steps++) {
-                amount = Math.min(amount, rest[cameFrom[v]][v]);
-                v = cameFrom[v];
-            }
-            return amount;
         }
     }
 }

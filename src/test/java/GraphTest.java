@@ -83,6 +83,7 @@ public final class GraphTest {
         x.reset(2);
         x.reset(12);
         checks.due("capacity(10, 11) after two resets", x.capacity(10, 11), 0);
+        checks.due("capacity(11, 10) after two resets", x.capacity(11, 10), 0);
     }
 
     private static void resetRefuses() {
@@ -265,6 +266,8 @@ public final class GraphTest {
                 x.setCapacity(u, v, 999);
             }
         }
+        checks.due("count(1) of the fullest graph", x.count(1), 66);
+        checks.due("count(2) of the fullest graph", x.count(2), 40);
         checks.due("cutWeight(63)", x.cutWeight(63), 36 * 999);
         checks.due("cutWeight(2048)", x.cutWeight(2048), 11 * 999);
     }

@@ -147,6 +147,14 @@ public final class StoredTreeTest {
             checks.due("label(" + node + ") in the fullest graph", x.label(node), 11 * 999);
             checks.due("side(" + node + ") in the fullest graph", x.side(node), 1 << node);
         }
+        checks.due("isFresh() in the fullest graph", x.isFresh(), 1);
+        x.setCapacity(10, 11, 0);
+        checks.due("isFresh() in the fullest graph", x.isFresh(), 0);
+        checks.due("loss() in the fullest graph", x.loss(), 999);
+        checks.due("lowerBound(0, 11) in the fullest graph", x.lowerBound(0, 11), 10 * 999);
+        checks.due("upperBound(0, 11) in the fullest graph", x.upperBound(0, 11), 10 * 999);
+        checks.due("lowerBound(0, 9) in the fullest graph", x.lowerBound(0, 9), 10 * 999);
+        checks.due("upperBound(0, 9) in the fullest graph", x.upperBound(0, 9), 11 * 999);
     }
 
     private static void nodesRefused() {
