@@ -21,6 +21,7 @@ public final class CutTreeKeeper {
     private static final int MOST_CAPACITY = 999;
     private static final int MOST_LIMIT = 20000;
     private static final int MOST_CHANGES = 40;
+    private static final int ABOVE_ALL_WEIGHTS = MOST_NODES * MOST_NODES * MOST_CAPACITY;
 
     private final Graph graph;
     private final ChangeList changes;
@@ -463,7 +464,7 @@ public final class CutTreeKeeper {
 
         /** The least label on the path; the minimum cut value if the tree is fresh. */
         private int leastLabel(int s, int t) {
-            int least = Integer.MAX_VALUE;
+            int least = ABOVE_ALL_WEIGHTS;
             for (int node = 1; node < graph.nodes; node++) {
                 if (separates(sides[node], s, t)) {
                     least = Math.min(least, labels[node]);
@@ -479,7 +480,7 @@ public final class CutTreeKeeper {
 
         private int lightestOnWay(int s, int t) {
             int best = 0;
-            int bestWeight = Integer.MAX_VALUE;
+            int bestWeight = ABOVE_ALL_WEIGHTS;
             for (int node = 1; node < graph.nodes; node++) {
                 if (separates(sides[node], s, t)) {
                     int weight = graph.weightOf(sides[node]);
@@ -554,7 +555,7 @@ public final class CutTreeKeeper {
         }
 
         int leastLabelAcross(int set) {
-            int least = Integer.MAX_VALUE;
+            int least = ABOVE_ALL_WEIGHTS;
             for (int u = 0; u < graph.nodes; u++) {
                 for (int v = u + 1; v < graph.nodes; v++) {
                     if (separates(set, u, v)) {
@@ -572,7 +573,6 @@ public final class CutTreeKeeper {
         private static final int MOST_PATHS = (MOST_NODES - 1) * MOST_CAPACITY;
 
         private final int[][] rest = new int[MOST_NODES][MOST_NODES];
-        private final int[] queue = new int[MOST_NODES];
         private final int[] cameFrom = new int[MOST_NODES];
         private int nodes;
         private int reached;
@@ -592,29 +592,26 @@ public final class CutTreeKeeper {
         /** A search in breadth, since shortest paths keep their number low. */
         private boolean findPath(int s, int t) {
             reached = only(s);
-            queue[0] = s;
-            int waiting = 1;
-            for (int head = 0; head < waiting && head < nodes; head++) {
-                int u = queue[head];
-                for (int v = 0; v < nodes; v++) {
-                    if (rest[u][v] > 0 && !holds(reached, v)) {
-                        reached |= only(v);
-                        cameFrom[v] = u;
-                        if (v == t) {
-                            return true;
+            int latest = reached;
+            for (int length = 1; length < nodes && !holds(reached, t); length++) {
+                int before = reached;
+                for (int u = 0; u < nodes; u++) {
+                    for (int v = 0; v < nodes; v++) {
+                        if (holds(latest, u) && rest[u][v] > 0 && !holds(reached, v)) {
+                            reached |= only(v);
+                            cameFrom[v] = u;
                         }
-                        queue[waiting] = v;
-                        waiting++;
                     }
                 }
+                latest = reached & ~before;
             }
-            return false;
+            return holds(reached, t);
         }
 
         private int narrowest(int s, int t) {
-            int amount = Integer.MAX_VALUE;
+            int amount = ABOVE_ALL_WEIGHTS;
             int v = t;
-            for (int steps = 0; steps < nodes && v != s; steps++) {
+            for (int steps = 0; steps < nodes && isBehind(v, s); steps++) {
                 int u = cameFrom[v];
                 amount = Math.min(amount, rest[u][v]);
                 v = u;
@@ -624,12 +621,16 @@ public final class CutTreeKeeper {
 
         private void sendAlong(int s, int t, int amount) {
             int v = t;
-            for (int steps = 0; steps < nodes && v != s; steps++) {
+            for (int steps = 0; steps < nodes && isBehind(v, s); steps++) {
                 int u = cameFrom[v];
                 rest[u][v] -= amount;
                 rest[v][u] += amount;
                 v = u;
             }
+        }
+
+        private boolean isBehind(int node, int s) {
+            return node != s && node >= 0 && node < nodes;
         }
     }
 }
