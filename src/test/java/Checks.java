@@ -1,13 +1,19 @@
 /** Compares answers with those that are due, and ends a test. */
 final class Checks {
+    private String sentence = "";
     private int made = 0;
     private int wrong = 0;
+
+    /** The words of the document that the answers from here on are due by. */
+    void sentence(String words) {
+        sentence = "\"" + words + "\": ";
+    }
 
     void due(String call, long got, long want) {
         made++;
         if (got != want) {
             wrong++;
-            System.out.println(call + " answered " + got + ", due is " + want);
+            System.out.println(sentence + call + " answered " + got + ", due is " + want);
         }
     }
 
@@ -15,7 +21,7 @@ final class Checks {
         made++;
         if (!isSo) {
             wrong++;
-            System.out.println("not so: " + what);
+            System.out.println(sentence + "not so: " + what);
         }
     }
 

@@ -110,7 +110,8 @@ public final class FaceTest {
         checks.holds("signs 1 to 127 alone", source.chars().allMatch(sign -> sign >= 1 && sign <= 127));
         String code = source.replaceAll("(?s)/\\*.*?\\*/", " ").replaceAll("//[^\n]*", " ");
         for (String word : List.of("throw", "throws", "try", "catch", "synchronized", "assert", "package", "System.exit",
-                "Random", "Thread", "nanoTime", "currentTimeMillis", "->", "::", "Exact", "var ")) {
+                "Random", "Thread", "nanoTime", "currentTimeMillis", "->", "::", "Exact", "var ",
+                "Integer.MAX_VALUE", "Integer.MIN_VALUE")) {
             checks.holds("no '" + word + "'", !Pattern.compile(
                 Character.isLetter(word.charAt(0)) ? "\\b" + Pattern.quote(word) : Pattern.quote(word)).matcher(code).find());
         }
