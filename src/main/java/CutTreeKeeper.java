@@ -302,8 +302,10 @@ public final class CutTreeKeeper {
         }
 
         void put(int u, int v, int newCapacity) {
-            capacities[u][v] = newCapacity;
-            capacities[v][u] = newCapacity;
+            if (hasNode(u) && hasNode(v)) {
+                capacities[u][v] = newCapacity;
+                capacities[v][u] = newCapacity;
+            }
         }
 
         int edges() {
@@ -353,17 +355,23 @@ public final class CutTreeKeeper {
         }
 
         void remember(int u, int v, int before) {
-            firsts[next] = u;
-            seconds[next] = v;
-            befores[next] = before;
-            next = next + 1 < MOST_CHANGES ? next + 1 : 0;
+            int place = isPlace(next) ? next : 0;
+            firsts[place] = u;
+            seconds[place] = v;
+            befores[place] = before;
+            next = place + 1;
             size = Math.min(size + 1, MOST_CHANGES);
         }
 
         void takeBackLatest(Graph graph) {
-            next = next > 0 ? next - 1 : MOST_CHANGES - 1;
+            int place = isPlace(next - 1) ? next - 1 : MOST_CHANGES - 1;
+            graph.put(firsts[place], seconds[place], befores[place]);
+            next = place;
             size--;
-            graph.put(firsts[next], seconds[next], befores[next]);
+        }
+
+        private static boolean isPlace(int place) {
+            return place >= 0 && place < MOST_CHANGES;
         }
     }
 
@@ -596,8 +604,11 @@ public final class CutTreeKeeper {
             for (int length = 1; length < nodes && !holds(reached, t); length++) {
                 int before = reached;
                 for (int u = 0; u < nodes; u++) {
+                    if (!holds(latest, u)) {
+                        continue;
+                    }
                     for (int v = 0; v < nodes; v++) {
-                        if (holds(latest, u) && rest[u][v] > 0 && !holds(reached, v)) {
+                        if (rest[u][v] > 0 && !holds(reached, v)) {
                             reached |= only(v);
                             cameFrom[v] = u;
                         }
@@ -629,8 +640,12 @@ public final class CutTreeKeeper {
             }
         }
 
+        /** Whether the node is not s itself, and the search came to it from a node. */
         private boolean isBehind(int node, int s) {
-            return node != s && node >= 0 && node < nodes;
+            if (node == s || node < 0 || node >= nodes) {
+                return false;
+            }
+            return cameFrom[node] >= 0 && cameFrom[node] < nodes;
         }
     }
 }
