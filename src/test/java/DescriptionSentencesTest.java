@@ -30,6 +30,7 @@ public final class DescriptionSentencesTest {
         othersThatNeedAFreshTree();
         othersBuildNothing();
         oneFlowForEachNode();
+        noneIsNoError();
         checks.end();
     }
 
@@ -656,6 +657,32 @@ public final class DescriptionSentencesTest {
                 checks.due("build() of " + n, x.build(), n - 1);
                 checks.due("count(3) of " + n, x.count(3), times * (n - 1));
             }
+        }
+    }
+
+    // ---- errors
+
+    private static void noneIsNoError() {
+        checks.sentence("NONE is returned only if no error applies");
+        for (int n = 2; n <= 12; n++) {
+            CutTreeKeeper x = Graphs.empty(n);
+            checks.due("parent(0) of " + n + ", no tree", x.parent(0), -4);
+            checks.due("label(0) of " + n + ", no tree", x.label(0), -4);
+            checks.due("lightCut(-1) of " + n + ", no tree", x.lightCut(-1), -3);
+            checks.due("count(3) of " + n + ", nothing built so far", x.count(3), 0);
+            checks.due("lightCut(" + (n - 1) + ") of " + n, x.lightCut(n - 1), -5);
+            checks.due("count(3) of " + n + ", built for NONE", x.count(3), n - 1);
+            checks.due("parent(0) of " + n, x.parent(0), -5);
+            checks.due("label(0) of " + n, x.label(0), -5);
+            x.setCapacity(0, 1, 1);
+            checks.due("parent(0) of " + n + ", not fresh", x.parent(0), -5);
+            checks.due("label(0) of " + n + ", not fresh", x.label(0), -5);
+            checks.due("parent(" + n + ")", x.parent(n), -1);
+            checks.due("label(-1)", x.label(-1), -1);
+            x.reset(n);
+            checks.due("parent(0) of " + n + ", removed", x.parent(0), -4);
+            checks.due("label(0) of " + n + ", removed", x.label(0), -4);
+            checks.due("undo() of " + n, x.undo(), -5);
         }
     }
 }
